@@ -35,6 +35,9 @@ public final class FarKeys {
     /** Far above every part: so the latest of several is never if one is, the earliest only if all are. */
     private static final int NEVER = 1000000;
 
+    /** How much LATER a GUARD hears what it does not hear: so far that even of a part below 0 it is never. */
+    private static final int UNHEARD = 2 * NEVER;
+
     private static final int GUARD_CLAUSE = 0;
     private static final int SIGN_CLAUSE = 1;
     private static final int HEARING_CLAUSE = 2;
@@ -154,7 +157,7 @@ public final class FarKeys {
             return NONE;
         }
         int later = land.delay[guard * MOST_SIGNS + sign];
-        return later >= NEVER ? NONE : later;
+        return later == UNHEARD ? NONE : later;
     }
 
     public boolean plan(int guard, int plan) {
@@ -648,7 +651,7 @@ public final class FarKeys {
     /** In how many ways it OPENS if this GUARD hears this SIGN at once; NONE if it hears it as it is. */
     private int tallyWithHearing(int guard, int sign) {
         int place = guard * MOST_SIGNS + sign;
-        if (land.delay[place] < NEVER) {
+        if (land.delay[place] != UNHEARD) {
             return NONE;
         }
         other.copy(land);
@@ -1014,7 +1017,7 @@ public final class FarKeys {
         final int[] error = new int[MOST_SIGNS];
         final int[] behind = new int[MOST_SIGNS];
         final int[] sender = new int[MOST_SIGNS];
-        /** How much LATER each GUARD hears each SIGN; NEVER: it does not. */
+        /** How much LATER each GUARD hears each SIGN. */
         final int[] delay = new int[MOST_GUARDS * MOST_SIGNS];
 
         void clear() {
@@ -1027,7 +1030,7 @@ public final class FarKeys {
             hasTwins = false;
             lost = 0;
             for (int i = 0; i < delay.length; i++) {
-                delay[i] = NEVER;
+                delay[i] = UNHEARD;
             }
         }
 
@@ -1079,7 +1082,7 @@ public final class FarKeys {
                 signs++;
             } else if (kind == HEARING_CLAUSE) {
                 int place = value[1] * MOST_SIGNS + value[0];
-                hasTwins |= delay[place] < NEVER;
+                hasTwins |= delay[place] != UNHEARD;
                 delay[place] = value[2];
                 hearings++;
             } else {
@@ -1101,7 +1104,7 @@ public final class FarKeys {
             }
             for (int place = 0; place < delay.length; place++) {
                 boolean isTold = place / MOST_SIGNS < guards && place % MOST_SIGNS < signs;
-                if (!isTold && delay[place] < NEVER) {
+                if (!isTold && delay[place] != UNHEARD) {
                     return false;
                 }
             }
@@ -1120,7 +1123,7 @@ public final class FarKeys {
         int heardBy(int guard) {
             int bits = 0;
             for (int sign = 0; sign < signs; sign++) {
-                if (delay[guard * MOST_SIGNS + sign] < NEVER) {
+                if (delay[guard * MOST_SIGNS + sign] != UNHEARD) {
                     bits |= 1 << sign;
                 }
             }
@@ -1129,7 +1132,7 @@ public final class FarKeys {
 
         void makeDeaf(int guard) {
             for (int sign = 0; sign < MOST_SIGNS; sign++) {
-                delay[guard * MOST_SIGNS + sign] = NEVER;
+                delay[guard * MOST_SIGNS + sign] = UNHEARD;
             }
         }
 
