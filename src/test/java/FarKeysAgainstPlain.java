@@ -288,6 +288,7 @@ public final class FarKeysAgainstPlain {
                 if (t != null) part = t;
             }
             ask(c, guard, sign, part, 0, 0);
+            if (draw.nextInt(2) == 0) askScratch(c, g, s);
             if (draw.nextInt(2) == 0) ask(25, near(-1, s), 0, 0, 0, 0);
             if (draw.nextInt(2) == 0) ask(26, 0, 0, 0, 0, 0);
         }

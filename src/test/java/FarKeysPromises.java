@@ -195,7 +195,12 @@ public final class FarKeysPromises {
         k.end(0);
         for (int i = 1; i <= 7; i++) due("feed", k.feed(0x20202020, 0x20202020, 0x20202020, 0x20202020, 0x20202020), 20 * i);
         due("feed to 155", k.feed(0x20202020, 0x20202020, 0x20202020, 0x20202000, 0), 155);
-        due("feed beyond 160", k.feed(0x20202020, 0x20200000, 0, 0, 0), NONE);
+        int four = 0x20202020;
+        due("feed beyond 160", k.feed(four, 0x20200000, 0, 0, 0), NONE);
+        due("feed beyond 160", k.feed(0, 0x20200000, four, 0, 0), NONE);
+        due("feed beyond 160", k.feed(0, 0, 0x2020, four, 0), NONE);
+        due("feed beyond 160", k.feed(0, 0, 0, 0x2020, four), NONE);
+        due("feed beyond 160", k.feed(four, 0, 0, 0, 0x2020), NONE);
         due("bytes", k.count(3), 155);
         due("feed to 160", k.feed(0x20002000, 0x20002000, 0x61, 0, 0), 160);
         due("fault(1)", k.fault(1), NONE);
@@ -891,6 +896,11 @@ public final class FarKeysPromises {
         due("best(0, 1)", k.best(0, 1), 0);
         due("thief(0, 0)", k.thief(0, 0), 10);
         due("thief(0, 1)", k.thief(0, 1), 49);
+        // a SIGN that nobody turns by has its ERROR for him as well
+        k = landOf("g;g;st5e1;st5;hs1g1;bw0", "b");
+        k.plan(1, 0);
+        due("thief(0, 0) of an exact one", k.thief(0, 0), 10);
+        due("thief(0, 1) of an exact one", k.thief(0, 1), 3);
         // GUARD 0 still sends by what it hears itself
         k = landOf("g;g;s;so0v0;hd5;hs1g1;bw0", "b");
         k.plan(1, 0);
@@ -975,6 +985,15 @@ public final class FarKeysPromises {
         k.scratch(0, NONE, 14);
         due("lies() of two against one", k.lies(), 1);
         k = scene();
+        k.scratch(0, NONE, 13);
+        k.scratch(0, NONE, 13);
+        k.scratch(0, NONE, 14);
+        due("lies() of one against two", k.lies(), 4);
+        k = scene();
+        k.scratch(0, NONE, 13);
+        k.scratch(0, NONE, 15);
+        due("lies() of either", k.lies(), 1);
+        k = scene();
         k.scratch(0, 1, 100);
         k.scratch(2, 0, 10);
         due("lies() of all", k.lies(), 3);
@@ -1008,6 +1027,12 @@ public final class FarKeysPromises {
         due("moment(-1)", k.moment(-1), HIDDEN);
         k.plan(0, 0);
         for (int what = 0; what < 3; what++) due("moment(" + what + ") of never", k.moment(what), HIDDEN);
+        k.plan(0, 2);
+        due("moment(1) by a+5", k.moment(1), 19);
+        due("moment(2) by a+5", k.moment(2), 3 * (16 + 16 + 16 + 17 + 18));
+        k.plan(0, 3);
+        due("moment(1) by a+3 again", k.moment(1), 17);
+        due("moment(2) by a+3 again", k.moment(2), 135);
         // of 0, 5, 6, 7 within 1: at 6; of three within 2: at 7
         k = landOf("g;g;g;g;s;h;hg1;hg2;hg3;bw1", "a", "a+5", "a+6", "a+7");
         for (int g = 0; g < 4; g++) k.plan(g, g);
@@ -1300,6 +1325,7 @@ public final class FarKeysPromises {
         k.undo();
         k.undo();
         due("back() once more", k.back(), 2);
+        allNightsComeBack();
         // an IMAGE keeps what was, not what is told later on
         k.scratch(0, NONE, 12);
         due("back() and back()", k.back(), 2);
@@ -1308,8 +1334,38 @@ public final class FarKeysPromises {
         due("back() in another LAND", k.back(), NONE);
     }
 
+    private static void allNightsComeBack() {
+        FarKeys k = scene();
+        for (int i = 0; i < 40; i++) k.night();
+        int[] turn = new int[40];
+        int[] open = new int[40];
+        for (int i = 0; i < 40; i++) {
+            turn[i] = k.turned(i, 2);
+            open[i] = k.opened(i);
+        }
+        int opened = k.count(8);
+        due("image() of 40", k.image(), 40);
+        for (int i = 39; i >= 0; i--) due("undo()", k.undo(), i);
+        k.plan(0, 2);
+        k.plan(2, 0);
+        k.plan(1, 2);
+        for (int i = 0; i < 40; i++) due("night() without GUARD 2", k.night(), 1);
+        due("opened nights without it", k.count(8), 40);
+        due("back() to 40", k.back(), 40);
+        for (int i = 0; i < 40; i++) {
+            due("turned(" + i + ", 2) again", k.turned(i, 2), turn[i]);
+            due("opened(" + i + ") again", k.opened(i), open[i]);
+        }
+        due("opened nights again", k.count(8), opened);
+        due("night() of a 41st", k.night(), NONE);
+    }
+
     private static void count() {
         FarKeys k = scene();
+        k.plan(0, 2);
+        k.night();
+        due("count(8) of the first", k.count(8), 1);
+        k = scene();
         k.night();
         k.night();
         k.scratch(0, NONE, 1);
