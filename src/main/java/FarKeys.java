@@ -233,7 +233,7 @@ public final class FarKeys {
         if (!isGuard(guard) || !isWithin(what, 1)) {
             return NONE;
         }
-        solo.tryAsGuard(walk, land, book.planOf, guard);
+        solo.trySimple(walk, land, book.planOf, guard, false);
         return solo.answer(land.signs * NUMBERS, what);
     }
 
@@ -305,7 +305,7 @@ public final class FarKeys {
         if (!isGuard(guard) || !isWithin(what, 1)) {
             return NONE;
         }
-        solo.tryAsThief(walk, land, book.planOf, guard);
+        solo.trySimple(walk, land, book.planOf, guard, true);
         return solo.answer(land.signs * NUMBERS, what);
     }
 
@@ -1511,27 +1511,16 @@ public final class FarKeys {
         private final int[] open = new int[MOST_SIMPLE];
         private final Row others = new Row();
 
-        /** SIMPLE plans by what the GUARD hears. */
-        void tryAsGuard(Walk walk, Land land, int[] planOf, int guard) {
+        /** SIMPLE plans by what the GUARD hears, a THIEF's by the SIGNS as they are. */
+        void trySimple(Walk walk, Land land, int[] planOf, int guard, boolean isThief) {
             clear();
-            int steps = walk.start(land, planOf, land.heardBy(guard));
+            int asked = isThief ? (1 << land.signs) - 1 : land.heardBy(guard);
+            int steps = walk.start(land, planOf, asked);
             for (int i = 0; i < steps; i++) {
                 findSpans(walk, guard);
                 for (int sign = 0; sign < land.signs; sign++) {
-                    addOpen(sign * NUMBERS, walk.hearing(guard, sign), walk.weight);
-                }
-                walk.step();
-            }
-        }
-
-        /** SIMPLE plans by the SIGNS as they are. */
-        void tryAsThief(Walk walk, Land land, int[] planOf, int guard) {
-            clear();
-            int steps = walk.start(land, planOf, (1 << land.signs) - 1);
-            for (int i = 0; i < steps; i++) {
-                findSpans(walk, guard);
-                for (int sign = 0; sign < land.signs; sign++) {
-                    addOpen(sign * NUMBERS, walk.at[sign], walk.weight);
+                    int base = isThief ? walk.at[sign] : walk.hearing(guard, sign);
+                    addOpen(sign * NUMBERS, base, walk.weight);
                 }
                 walk.step();
             }
