@@ -65,15 +65,18 @@ public final class FarKeysBounds {
         guardsAsked();
         hearingAsked();
         offsOfASign();
+        allWays();
         offsOfSeveralSigns();
         partsBelowZero();
         signsThatAreNeverThere();
         turnsByLetters();
         latestAndEarliest();
+        neverIsNotBelowZero();
         withinABreath();
         needOfTooMany();
         oddsMadePlain();
         whenTurned();
+        askedAgain();
         nearest();
         breathEnough();
         simplePlansOfOne();
@@ -215,6 +218,26 @@ public final class FarKeysBounds {
         }
     }
 
+    private static void allWays() {
+        sentence = "of each SIGN all OFFS (2 ERROR and 1), each with each";
+        for (int errors = 0; errors < 1024; errors += 3) {
+            StringBuilder text = new StringBuilder("g;g");
+            int ways = 1;
+            for (int s = 0; s < 5; s++) {
+                int error = errors >> 2 * s & 3;
+                text.append(";se").append(error);
+                ways *= 2 * error + 1;
+            }
+            FarKeys k = land(text + ";h;hg1", "a", "a");
+            due("ways(1) of " + text, k.ways(1), ways);
+            due("ways(0) of " + text, k.ways(0), ways);
+            due("fits(-1) of " + text, k.fits(NONE), ways);
+            due("when(0, 2) of " + text, k.when(0, 2), 0);
+            k.plan(0, NONE);
+            due("when(0, 2) of " + text + ", never", k.when(0, 2), ways);
+        }
+    }
+
     private static void offsOfSeveralSigns() {
         sentence = "By OFFS (digits to the base 10: OFF and 3, SIGN 0 the highest)";
         int[] tens = {10000, 1000, 100, 10, 1};
@@ -287,6 +310,21 @@ public final class FarKeysBounds {
         k = land("g;g;se3;se3o0v1;h;hs1;hg1", "b", "b");
         due("turnsAt(0, 0)", k.turnsAt(0, 0), -6);
         due("turnsAt(0, 1)", k.turnsAt(0, 1), HIDDEN);
+        // far below 0 it stays never: not sent, behind what is not sent, heard at once all the same
+        k = land("g;g;se3;se3o0v1;se3o1;h;hs1;hs2;hs1g1;hs2g1;bw9", "b", "c");
+        for (int offs : new int[] {0, 33, 300, 333, 666}) {
+            due("turnsAt(" + offs + ", 0), not sent below 0", k.turnsAt(offs, 0), HIDDEN);
+            due("turnsAt(" + offs + ", 1), not sent below 0", k.turnsAt(offs, 1), HIDDEN);
+            due("opens(" + offs + "), not sent below 0", k.opens(offs), 0);
+        }
+        due("ways(0), not sent below 0", k.ways(0), 0);
+        due("near(0), not sent below 0", k.near(0), NONE);
+        due("when(1, 2), not sent below 0", k.when(1, 2), 343);
+        due("gain(0), not sent below 0", k.gain(0), 0);
+        due("night(), not sent below 0", k.night(), 0);
+        due("turned(0, 1), not sent below 0", k.turned(0, 1), HIDDEN);
+        due("route(1, 1), not sent below 0", k.route(1, 1), HIDDEN);
+        due("route(2, 1), not sent below 0", k.route(2, 1), HIDDEN);
         // v counts with an o alone
         k = land("g;g;st5v1;h", "a");
         due("turnsAt(3, 0)", k.turnsAt(3, 0), 5);
@@ -328,6 +366,20 @@ public final class FarKeysBounds {
         for (int i = 0; i < plan.length; i++) {
             FarKeys k = land("g;g;st5;st9;st1;st2;h;hs1;hs2;hs2g1;hs3g1", plan[i]);
             due("turnsAt(3333, 0) by " + plan[i], k.turnsAt(3333, 0), want[i]);
+        }
+    }
+
+    /** a is below 0 in some ways and not heard by GUARD 0: never is later than all that it hears. */
+    private static void neverIsNotBelowZero() {
+        sentence = "of & the latest (never, if one is), of | the earliest";
+        String[] plan = {"a", "a&b", "b&a", "a+99&b", "a|b", "(a|b)&b", "(a&b)|a", "a&b|b+3"};
+        int[] want = {HIDDEN, HIDDEN, HIDDEN, HIDDEN, 5, 5, HIDDEN, 8};
+        for (int i = 0; i < plan.length; i++) {
+            FarKeys k = land("g;g;se3;st5;hg1;hs1", plan[i]);
+            for (int off = 0; off <= 6; off++) due("turnsAt by " + plan[i], k.turnsAt(10 * off + 3, 0), want[i]);
+            due("when(0, 0) by " + plan[i], k.when(0, 0), want[i]);
+            due("when(0, 1) by " + plan[i], k.when(0, 1), want[i]);
+            due("when(0, 2) by " + plan[i], k.when(0, 2), want[i] == HIDDEN ? 7 : 0);
         }
     }
 
@@ -429,6 +481,38 @@ public final class FarKeysBounds {
         }
     }
 
+    /** What was asked ahead of a change is not in what is asked behind it. */
+    private static void askedAgain() {
+        sentence = "WHEN a GUARD turns: the earliest, the latest part over all ways; in how many it never does";
+        FarKeys k = land("g;g;g;st9e1;st5e2;h;hs1g1;hg2d3;bw9", "a", "b", "a+1");
+        for (int round = 0; round < 3; round++) {
+            for (int g = 0; g < 3; g++) {
+                due("when(" + g + ", 2)", k.when(g, 2), 0);
+                due("when(" + g + ", 0)", k.when(g, 0), g == 0 ? 8 : g == 1 ? 3 : 12);
+                due("when(" + g + ", 1)", k.when(g, 1), g == 0 ? 10 : g == 1 ? 7 : 14);
+            }
+            due("ways(0)", k.ways(0), 15);
+            due("gain(1)", k.gain(1), 150);
+            due("near(0)", k.near(0), 1);
+            due("near(1)", k.near(1), 4);
+            due("enough()", k.enough(), 4);
+            due("moment(0)", k.moment(0), 8);
+            due("moment(2)", k.moment(2), 135);
+            for (int g = 0; g < 3; g++) k.plan(g, NONE);
+            for (int g = 0; g < 3; g++) {
+                due("when(" + g + ", 2) of never", k.when(g, 2), 15);
+                due("when(" + g + ", 0) of never", k.when(g, 0), HIDDEN);
+                due("when(" + g + ", 1) of never", k.when(g, 1), HIDDEN);
+            }
+            due("ways(0) of never", k.ways(0), 0);
+            due("gain(1) of never", k.gain(1), 0);
+            due("near(1) of never", k.near(1), NONE);
+            due("enough() of never", k.enough(), NONE);
+            due("moment(2) of never", k.moment(2), HIDDEN);
+            for (int g = 0; g < 3; g++) k.plan(g, g);
+        }
+    }
+
     private static void nearest() {
         sentence = "NEAR: the least (0), the greatest (1). NONE: in no way NEED turn, no LAND, no such what";
         FarKeys k = land("g;g;g;st9e3;st9e2;h;hs1g1;hg2d8", "a", "b");
@@ -444,7 +528,8 @@ public final class FarKeysBounds {
         k.plan(2, NONE);
         due("near(0) of none", k.near(0), NONE);
         for (int what : FEW) if (what != 0 && what != 1) due("near(" + what + ")", land("g;g;s;h;hg1", "a", "a").near(what), NONE);
-        // those that lie nearest: of 0, 4, 9 two are 4 apart, three are 9
+        sentence = "how far the NEED turns that lie nearest to one another are apart (those ways out in which fewer turn)";
+        // of 0, 4, 9 two are 4 apart, three are 9
         due("near(0) of 0, 4, 9 by two", four(2, 0, "a", "a+9", "a+4").near(0), 4);
         due("near(0) of 0, 4, 9 by three", four(3, 0, "a", "a+9", "a+4").near(0), 9);
         due("near(0) of 0, 4, 9 by four", four(4, 0, "a", "a+9", "a+4").near(0), NONE);
@@ -708,6 +793,35 @@ public final class FarKeysBounds {
         due("rest(0, 1, -1) of t10", land("gt10;gt10;s;h;hg1;bw0").rest(0, 1, NONE), 10);
         due("rest(0, 1, -1) of t11", land("gt11;gt11;s;h;hg1;bw0").rest(0, 1, NONE), 1);
         due("rest(0, 1, 0) of t11", land("gt11;gt11;s;h;hg1;bw0").rest(0, 1, 0), 0);
+        // TRYING is for ways in which it does not OPEN alone: within 1 no more is to be had by being first
+        for (int trying : new int[] {1, 9, 10}) {
+            String text = "gt" + trying + ";gt" + trying + ";st5e1;h;hg1;bw1";
+            due("rest(0, 1, -1) within 1 of t" + trying, land(text).rest(0, 1, NONE), 28);
+            due("rest(1, 0, -1) within 1 of t" + trying, land(text).rest(1, 0, NONE), 28);
+            due("rest(0, 1, 27) within 1 of t" + trying, land(text).rest(0, 1, 27), 909);
+        }
+        // beyond the PRIZE: the first goes ahead by more than the BREATH, till there is nothing ahead; 0 and 0,
+        // 0 and 1, 1 and 0, 1 and 1 are left
+        due("rest(0, 1, -1) within 1 of t11", land("gt11;gt11;st5e1;h;hg1;bw1").rest(0, 1, NONE), 4);
+        due("rest(0, 1, 3) within 1 of t11", land("gt11;gt11;st5e1;h;hg1;bw1").rest(0, 1, 3), 101);
+        due("rest(1, 0, 3) within 1 of t11", land("gt11;gt11;st5e1;h;hg1;bw1").rest(1, 0, 3), 101);
+        // who never turns is not the first: by b, which GUARD 0 does not hear, it has nothing
+        FarKeys deaf = land("gt5;gt5;s;s;h;bn3");
+        due("rest(0, 1, -1) of one who hears a", deaf.rest(0, 1, NONE), 200);
+        due("rest(0, 1, 199) of one who hears a", deaf.rest(0, 1, 199), 919);
+        due("rest(1, 0, -1) of one who hears a", deaf.rest(1, 0, NONE), 200);
+        due("rest(1, 0, 199) of one who hears a", deaf.rest(1, 0, 199), 1909);
+        // what is never there and heard at once by both OPENS nothing, and nobody is the first by it
+        FarKeys never = land("gt5;gt5;se3;se3o0v1;hs1;hs1g1;bw9");
+        due("pair(0, 1, 1) of what is never there", never.pair(0, 1, 1), 0);
+        due("pair(0, 1, 0) of what is never there", never.pair(0, 1, 0), 0);
+        due("sure(0, 1) of what is never there", never.sure(0, 1), 0);
+        due("rest(0, 1, -1) of what is never there", never.rest(0, 1, NONE), 400);
+        due("best(0, 1) of what is never there", never.best(0, 1), 0);
+        due("thief(0, 1) of what is never there", never.thief(0, 1), 0);
+        // not heard by either, though below 0
+        due("pair(0, 1, 1) of what is not heard", land("g;g;se3;bw9").pair(0, 1, 1), 0);
+        due("rest(0, 1, -1) of what is not heard", land("gt5;gt5;se3;bw9").rest(0, 1, NONE), 100);
         // two that never turn: what they could hear is not there
         due("rest(0, 1, -1) of deaf ones", land("gt9;gt9;s").rest(0, 1, NONE), 100);
         due("rest(0, 1, 0) of five SIGNS", land("gt9;gt9;s;s;s;s;s").rest(0, 1, 2499), 4949);
@@ -1023,7 +1137,18 @@ public final class FarKeysBounds {
         due("route(2, 0) of what is never there", k.route(2, 0), 2);
         due("route(1, 0) of what is never there", k.route(1, 0), 1);
         due("route(4, 1)", k.route(4, 1), NONE);
-        // ERRORS are not on that way
+        // ERRORS are not on that way, whatever OFFS have been told or drawn
+        k = land("g;g;st1e3;st2e3o0;h;hs1", "b");
+        for (int offs : new int[] {0, 6, 60, 66}) {
+            due("turnsAt(" + offs + ", 0)", k.turnsAt(offs, 0), 3 + offs / 10 + offs % 10 - 6);
+            due("route(0, 1) behind " + offs, k.route(0, 1), 1);
+            due("route(1, 1) behind " + offs, k.route(1, 1), 3);
+        }
+        for (int night = 0; night < 10; night++) {
+            k.night();
+            due("route(0, 1) behind a NIGHT", k.route(0, 1), 1);
+            due("route(1, 1) behind a NIGHT", k.route(1, 1), 3);
+        }
         due("route(1, 1) with ERRORS", land("g;g;st1e1;st2e3o0;h").route(1, 1), 3);
         due("route(0, 1) of 0", land("g;g;se3").route(0, 1), 0);
     }
@@ -1037,6 +1162,11 @@ public final class FarKeysBounds {
         due("deaf() of never", land("g;g;s;h;hg1", "a").deaf(), 0);
         // GUARD 2 turns never, but sends b
         due("deaf() of one who sends", land("g;g;g;s;so0v2;hg2;hs1;hs1g1", "b", "b").deaf(), 7);
+        // with it in one of 7 ways; without it b is never there, not late, though a is below 0
+        FarKeys late = land("g;g;g;se3;so0v2;st3;hg2;hs1;hs1g1;hs2g1;bw0", "b", "b&c");
+        due("ways(0) of one who sends", late.ways(0), 1);
+        due("deaf() of one who sends in one way", late.deaf(), 7);
+        due("deaf() of one who sends below 0", land("g;g;g;se3;se3o0v2;hg2;hs1;hs1g1", "b", "b").deaf(), 7);
         // without GUARD 2 b is never there: GUARD 1 turns a part later
         FarKeys k = land("g;g;g;st9;so0v2;hg2;h;hg1;hs1g1;st9;hs2;bw0", "c", "a&b|a+1");
         due("ways(0)", k.ways(0), 1);

@@ -32,6 +32,7 @@ public final class FarKeysRefused {
     }
 
     private static final List<List<Long>> untouched = new ArrayList<>();
+    private static String sentence = "What is refused answers as told and changes nothing";
     private static int checks = 0;
     private static int wrong = 0;
 
@@ -191,7 +192,7 @@ public final class FarKeysRefused {
         checks++;
         if (got != want) {
             wrong++;
-            System.out.println(what + " answered " + got + ", due is " + want);
+            System.out.println("\"" + sentence + "\": " + what + " answered " + got + ", due is " + want);
         }
     }
 
@@ -212,7 +213,7 @@ public final class FarKeysRefused {
         wrong++;
         int at = 0;
         while (at < got.size() && at < want.size() && got.get(at).equals(want.get(at))) at++;
-        System.out.println(name + " in " + STATES[state] + " has changed what is seen, from answer " + at + " of ending " + ending + " on");
+        System.out.println("\"" + sentence + "\": " + name + " in " + STATES[state] + " has changed what is seen, from answer " + at + " of ending " + ending + " on");
     }
 
     private static void refusedWithoutLand(String name, long want, Call call) {
@@ -238,19 +239,25 @@ public final class FarKeysRefused {
     private static final int[] NO_SIGNS = {LOW, -2, -1, 2, 5, HIGH};
     private static final int[] NOT_TWO = {LOW, -1, 2, HIGH};
     private static final int[] NOT_THREE = {LOW, -1, 3, HIGH};
+    /** Of ERRORS 1 and 2. */
+    private static final int[] NO_OFFS = {LOW, -33, 0, 3, 13, 53, 30, 36, 133, 333, HIGH};
 
-    // ---- promises 2 to 9
+    // ---- promises 1 to 9
 
     private static void texts() {
+        sentence = "Twenty bytes more come to the TAPE (of each number the highest first; bytes of 0 are left out): how many it has. NONE: more than 160";
         refused(FULL, "feed of one byte", NONE, k -> k.feed(0, 0, 0, 0, 1));
         refused(FULL, "feed of twenty bytes", NONE, k -> k.feed(0x61616161, 0x61616161, 0x61616161, 0x61616161, 0x61616161));
         refused(FULL, "feed of a byte in front", NONE, k -> k.feed(0x01000000, 0, 0, 0, 0));
+        refused(FULL, "feed of a byte in the middle", NONE, k -> k.feed(0, 0, 0x00FF0000, 0, 0));
+        sentence = "The TAPE has its first n bytes alone. False: n";
         for (int n : new int[] {LOW, -1, 161, HIGH}) refusedAlways("end(" + n + ")", 0, k -> yes(k.end(n)));
         refusedAlways("end(one more)", 0, k -> yes(k.end(k.count(3) + 1)));
-        for (int sort : new int[] {LOW, -2, -1, 2, 3, HIGH}) {
-            refusedAlways("fault(" + sort + ")", -2, k -> k.fault(sort));
-            refusedAlways("text(" + sort + ")", NONE, k -> k.text(sort));
-        }
+        sentence = "The FAULT of the TAPE as a LAND (0), a PLAN (1). NONE: none. -2: no such sort";
+        for (int sort : new int[] {LOW, -2, -1, 2, 3, HIGH}) refusedAlways("fault(" + sort + ")", -2, k -> k.fault(sort));
+        sentence = "The TAPE (empty then) is the LAND (all that was of another one is gone but PLANS and draws; no GUARD has one): "
+                + "how many GUARDS; a PLAN: its number. NONE: a FAULT, no such sort, there are eight";
+        for (int sort : new int[] {LOW, -2, -1, 2, 3, HIGH}) refusedAlways("text(" + sort + ")", NONE, k -> k.text(sort));
         // the TAPE holds no PLAN; that of a new object nothing
         refusedAlways("text(1)", NONE, k -> k.text(1));
         refused(NEW, "text(0)", NONE, k -> k.text(0));
@@ -265,6 +272,7 @@ public final class FarKeysRefused {
             for (String text : lands) stays(state, 0, text);
             for (String text : plans) stays(state, 1, text);
         }
+        // a ninth PLAN
         stays(FULL, 1, "a");
         stays(FULL, 1, "(a+12|b)&c");
     }
@@ -277,13 +285,16 @@ public final class FarKeysRefused {
         feedText(k, text);
         feedText(twin, text);
         due("text(" + sort + ") of '" + text + "' in " + STATES[state], k.text(sort), NONE);
-        checks++;
-        List<Long> got = portrait(k, 1);
-        if (!got.equals(portrait(twin, 1))) {
-            wrong++;
-            System.out.println("text(" + sort + ") of '" + text + "' in " + STATES[state] + " has changed what is seen");
-        }
         due("bytes of '" + text + "'", k.count(3), text.length());
+        alike(k, twin, 1, "text(" + sort + ") of '" + text + "' in " + STATES[state]);
+    }
+
+    private static void alike(FarKeys k, FarKeys twin, int ending, String what) {
+        checks++;
+        if (!portrait(k, ending).equals(portrait(twin, ending))) {
+            wrong++;
+            System.out.println("\"" + sentence + "\": " + what + " has changed what is seen");
+        }
     }
 
     private static long signOf(FarKeys k, int sign, int what) {
@@ -295,18 +306,23 @@ public final class FarKeysRefused {
     }
 
     private static void landAsked() {
+        sentence = "Of a SIGN: 0 PARTS, 1 ERROR, 2 behind which it goes out (NONE), 3 who sends it. NoSuchElementException: no such ones";
         for (int what = 0; what < 4; what++) {
             int w = what;
             refusedWithoutLand("sign(0, " + w + ")", THROWN, k -> signOf(k, 0, w));
             for (int s : NO_SIGNS) refusedWithLand("sign(" + s + ", " + w + ")", THROWN, k -> signOf(k, s, w));
         }
         for (int what : new int[] {LOW, -1, 4, HIGH}) refusedWithLand("sign(0, " + what + ")", THROWN, k -> signOf(k, 0, what));
+        sentence = "Of a GUARD: 0 PRIZE, 1 for TRYING, 2 its PLAN (NONE). NONE: no such ones";
         refusedWithoutLand("guard(0, 0)", NONE, k -> k.guard(0, 0));
         for (int g : NO_GUARDS) refusedWithLand("guard(" + g + ", 0)", NONE, k -> k.guard(g, 0));
         for (int what : NOT_THREE) refusedWithLand("guard(0, " + what + ")", NONE, k -> k.guard(0, what));
+        sentence = "How much LATER a GUARD hears a SIGN. NONE: it does not, no such ones";
         refusedWithoutLand("hears(0, 0)", NONE, k -> k.hears(0, 0));
+        refusedWithLand("hears(2, 0)", NONE, k -> k.hears(2, 0));
         for (int g : NO_GUARDS) refusedWithLand("hears(" + g + ", 0)", NONE, k -> k.hears(g, 0));
         for (int s : NO_SIGNS) refusedWithLand("hears(0, " + s + ")", NONE, k -> k.hears(0, s));
+        sentence = "A PLAN of a GUARD (NONE: none). False: no such ones";
         refusedWithoutLand("plan(0, 0)", 0, k -> yes(k.plan(0, 0)));
         refusedWithoutLand("plan(0, -1)", 0, k -> yes(k.plan(0, NONE)));
         for (int g : NO_GUARDS) refusedWithLand("plan(" + g + ", 0)", 0, k -> yes(k.plan(g, 0)));
@@ -318,102 +334,120 @@ public final class FarKeysRefused {
     // ---- promises 10 to 25
 
     private static void waysAsked() {
+        sentence = "In how many ways it OPENS (0), of how many (1). NONE: no LAND, no such what";
         refusedWithoutLand("ways(0)", NONE, k -> k.ways(0));
+        for (int what : NOT_TWO) refusedWithLand("ways(" + what + ")", NONE, k -> k.ways(what));
+        sentence = "ODDS: above (0), below (1). NONE: no LAND, no such part";
         refusedWithoutLand("odds(1)", NONE, k -> k.odds(1));
-        refusedWithoutLand("near(0)", NONE, k -> k.near(0));
-        refusedWithoutLand("enough()", NONE, k -> k.enough());
-        refusedWithoutLand("idle()", NONE, k -> k.idle());
-        for (int what : NOT_TWO) {
-            refusedWithLand("ways(" + what + ")", NONE, k -> k.ways(what));
-            refusedWithLand("odds(" + what + ")", NONE, k -> k.odds(what));
-            refusedWithLand("near(" + what + ")", NONE, k -> k.near(what));
-        }
+        for (int what : NOT_TWO) refusedWithLand("odds(" + what + ")", NONE, k -> k.odds(what));
+        sentence = "By OFFS (digits to the base 10: OFF and 3, SIGN 0 the highest): when a GUARD turns. HIDDEN: never, no such ones";
         refusedWithoutLand("turnsAt(33, 0)", HIDDEN, k -> k.turnsAt(33, 0));
-        refusedWithoutLand("opens(33)", NONE, k -> k.opens(33));
         for (int g : NO_GUARDS) refusedWithLand("turnsAt(33, " + g + ")", HIDDEN, k -> k.turnsAt(33, g));
-        for (int offs : new int[] {LOW, -33, 0, 3, 13, 53, 30, 36, 133, 333, HIGH}) {
-            refusedWithLand("turnsAt(" + offs + ", 0)", HIDDEN, k -> k.turnsAt(offs, 0));
-            refusedWithLand("opens(" + offs + ")", NONE, k -> k.opens(offs));
-        }
+        for (int offs : NO_OFFS) refusedWithLand("turnsAt(" + offs + ", 0)", HIDDEN, k -> k.turnsAt(offs, 0));
+        sentence = "By OFFS likewise: whether it OPENS (1, 0). NONE: no such OFFS, no LAND";
+        refusedWithoutLand("opens(33)", NONE, k -> k.opens(33));
+        for (int offs : NO_OFFS) refusedWithLand("opens(" + offs + ")", NONE, k -> k.opens(offs));
+        sentence = "WHEN: the earliest (0), the latest (1; HIDDEN both: it never turns), in how many ways it never does (2). HIDDEN: no such ones";
         refusedWithoutLand("when(0, 2)", HIDDEN, k -> k.when(0, 2));
         for (int g : NO_GUARDS) refusedWithLand("when(" + g + ", 2)", HIDDEN, k -> k.when(g, 2));
         for (int what : NOT_THREE) refusedWithLand("when(0, " + what + ")", HIDDEN, k -> k.when(0, what));
-        refusedWithoutLand("shift(0, 0)", NONE, k -> k.shift(0, 0));
-        for (int s : NO_SIGNS) refusedWithLand("shift(" + s + ", 0)", NONE, k -> k.shift(s, 0));
-        for (int by : new int[] {LOW, -10, 10, HIGH}) refusedWithLand("shift(0, " + by + ")", NONE, k -> k.shift(0, by));
+        sentence = "NEAR: the least (0), the greatest (1). NONE: in no way NEED turn, no LAND, no such what";
+        refusedWithoutLand("near(0)", NONE, k -> k.near(0));
+        for (int what : NOT_TWO) refusedWithLand("near(" + what + ")", NONE, k -> k.near(what));
+        sentence = "BREATH ENOUGH. NONE: none to 99, no LAND";
+        refusedWithoutLand("enough()", NONE, k -> k.enough());
     }
 
     private static void plansAsked() {
+        sentence = "BEST: the plan (0), in how many ways (1). NONE: no such ones";
         refusedWithoutLand("best(0, 0)", NONE, k -> k.best(0, 0));
-        refusedWithoutLand("waits(0, 0)", NONE, k -> k.waits(0, 0));
-        refusedWithoutLand("thief(0, 0)", NONE, k -> k.thief(0, 0));
-        refusedWithoutLand("gain(0)", NONE, k -> k.gain(0));
+        for (int g : NO_GUARDS) refusedWithLand("best(" + g + ", 0)", NONE, k -> k.best(g, 0));
+        for (int what : NOT_TWO) refusedWithLand("best(0, " + what + ")", NONE, k -> k.best(0, what));
+        sentence = "PAIR: 100 times the first one's and the other's (0), in how many ways (1). NONE: no such ones, alike, more than 400 ways";
         refusedWithoutLand("pair(0, 1, 0)", NONE, k -> k.pair(0, 1, 0));
+        for (int[] two : noPairs()) refusedWithLand("pair(" + two[0] + ", " + two[1] + ", 0)", NONE, k -> k.pair(two[0], two[1], 0));
+        for (int what : NOT_TWO) refusedWithLand("pair(0, 1, " + what + ")", NONE, k -> k.pair(0, 1, what));
+        refusedInManyWays("pair(0, 1, 0)", k -> k.pair(0, 1, 0));
+        sentence = "SURE. NONE: no such ones, alike, more than 400 ways";
         refusedWithoutLand("sure(0, 1)", NONE, k -> k.sure(0, 1));
+        for (int[] two : noPairs()) refusedWithLand("sure(" + two[0] + ", " + two[1] + ")", NONE, k -> k.sure(two[0], two[1]));
+        refusedInManyWays("sure(0, 1)", k -> k.sure(0, 1));
+        sentence = "IDLE, as bits. NONE: no LAND";
+        refusedWithoutLand("idle()", NONE, k -> k.idle());
+        sentence = "SHIFT. NONE: no such SIGN, out of bounds";
+        refusedWithoutLand("shift(0, 0)", NONE, k -> k.shift(0, 0));
+        for (int s : NO_SIGNS) refusedWithLand("shift(" + s + ", 0)", NONE, k -> k.shift(s, 0));
+        for (int by : new int[] {LOW, -10, 10, HIGH}) refusedWithLand("shift(0, " + by + ")", NONE, k -> k.shift(0, by));
+        sentence = "WAIT: how much (0), in how many ways (1). NONE: no such ones";
+        refusedWithoutLand("waits(0, 0)", NONE, k -> k.waits(0, 0));
+        for (int g : NO_GUARDS) refusedWithLand("waits(" + g + ", 0)", NONE, k -> k.waits(g, 0));
+        for (int what : NOT_TWO) refusedWithLand("waits(0, " + what + ")", NONE, k -> k.waits(0, what));
+        sentence = "GAIN. NONE: no such GUARD";
+        refusedWithoutLand("gain(0)", NONE, k -> k.gain(0));
+        for (int g : NO_GUARDS) refusedWithLand("gain(" + g + ")", NONE, k -> k.gain(g));
+        sentence = "REST: how many (i NONE), the i-th. NONE: no such ones, alike, more than 400 ways";
         refusedWithoutLand("rest(0, 1, -1)", NONE, k -> k.rest(0, 1, NONE));
-        for (int g : NO_GUARDS) {
-            refusedWithLand("best(" + g + ", 0)", NONE, k -> k.best(g, 0));
-            refusedWithLand("waits(" + g + ", 0)", NONE, k -> k.waits(g, 0));
-            refusedWithLand("thief(" + g + ", 0)", NONE, k -> k.thief(g, 0));
-            refusedWithLand("gain(" + g + ")", NONE, k -> k.gain(g));
-            refusedWithLand("pair(" + g + ", 0, 0)", NONE, k -> k.pair(g, 0, 0));
-            refusedWithLand("pair(0, " + g + ", 0)", NONE, k -> k.pair(0, g, 0));
-            refusedWithLand("sure(" + g + ", 0)", NONE, k -> k.sure(g, 0));
-            refusedWithLand("sure(0, " + g + ")", NONE, k -> k.sure(0, g));
-            refusedWithLand("rest(" + g + ", 0, -1)", NONE, k -> k.rest(g, 0, NONE));
-            refusedWithLand("rest(0, " + g + ", -1)", NONE, k -> k.rest(0, g, NONE));
-        }
-        for (int g = 0; g < 3; g++) {
-            int same = g;
-            refusedWithLand("pair(" + g + ", " + g + ", 0)", NONE, k -> k.pair(same, same, 0));
-            refusedWithLand("sure(" + g + ", " + g + ")", NONE, k -> k.sure(same, same));
-            refusedWithLand("rest(" + g + ", " + g + ", -1)", NONE, k -> k.rest(same, same, NONE));
-        }
-        for (int what : NOT_TWO) {
-            refusedWithLand("best(0, " + what + ")", NONE, k -> k.best(0, what));
-            refusedWithLand("waits(0, " + what + ")", NONE, k -> k.waits(0, what));
-            refusedWithLand("thief(0, " + what + ")", NONE, k -> k.thief(0, what));
-            refusedWithLand("pair(0, 1, " + what + ")", NONE, k -> k.pair(0, 1, what));
-        }
+        for (int[] two : noPairs()) refusedWithLand("rest(" + two[0] + ", " + two[1] + ", -1)", NONE, k -> k.rest(two[0], two[1], NONE));
         for (int i : new int[] {LOW, -2, 400, HIGH}) refusedWithLand("rest(0, 1, " + i + ")", NONE, k -> k.rest(0, 1, i));
         refusedWithLand("rest(0, 1, one more)", NONE, k -> k.rest(0, 1, k.rest(0, 1, NONE)));
+        refusedInManyWays("rest(0, 1, -1)", k -> k.rest(0, 1, NONE));
+        sentence = "THIEF: the plan (0), in how many ways (1). NONE: no such ones";
+        refusedWithoutLand("thief(0, 0)", NONE, k -> k.thief(0, 0));
+        for (int g : NO_GUARDS) refusedWithLand("thief(" + g + ", 0)", NONE, k -> k.thief(g, 0));
+        for (int what : NOT_TWO) refusedWithLand("thief(0, " + what + ")", NONE, k -> k.thief(0, what));
+    }
+
+    /** One of them is no GUARD, or both are alike. */
+    private static List<int[]> noPairs() {
+        List<int[]> pairs = new ArrayList<>();
+        for (int g : NO_GUARDS) {
+            pairs.add(new int[] {g, 0});
+            pairs.add(new int[] {0, g});
+        }
+        for (int g = 0; g < 3; g++) pairs.add(new int[] {g, g});
+        return pairs;
+    }
+
+    /** The LAND on the TAPE has 16807 ways. */
+    private static void refusedInManyWays(String name, Call call) {
+        FarKeys k = nextLand();
+        due("ways(1)", k.ways(1), 16807);
+        due(name + " of 16807 ways", call.of(k), NONE);
+        FarKeys twin = nextLand();
+        twin.ways(1);
+        alike(k, twin, 2, name + " of 16807 ways");
     }
 
     // ---- promises 26 to 36
 
     private static void scratchesAsked() {
+        sentence = "A SCRATCH: a GUARD turned (sign NONE), or heard a SIGN, at a part: how many there are. NONE: no such ones, out of bounds, there are ten";
         refusedWithoutLand("scratch(0, -1, 0)", NONE, k -> k.scratch(0, NONE, 0));
-        refusedWithoutLand("fits(-1)", NONE, k -> k.fits(NONE));
-        refusedWithoutLand("lies()", NONE, k -> k.lies());
         for (int g : NO_GUARDS) refusedWithLand("scratch(" + g + ", 0, 9)", NONE, k -> k.scratch(g, 0, 9));
-        for (int s : NO_SIGNS) {
-            if (s == NONE) continue;
-            refusedWithLand("scratch(0, " + s + ", 9)", NONE, k -> k.scratch(0, s, 9));
-            refusedWithLand("fits(" + s + ")", NONE, k -> k.fits(s));
-        }
+        for (int s : NO_SIGNS) if (s != NONE) refusedWithLand("scratch(0, " + s + ", 9)", NONE, k -> k.scratch(0, s, 9));
         for (int part : new int[] {LOW, -100, 200, HIGH}) {
             refusedWithLand("scratch(0, 0, " + part + ")", NONE, k -> k.scratch(0, 0, part));
             refusedWithLand("scratch(0, -1, " + part + ")", NONE, k -> k.scratch(0, NONE, part));
         }
         refused(FULL, "scratch(0, 0, 11)", NONE, k -> k.scratch(0, 0, 11));
         refused(FULL, "scratch(2, -1, -99)", NONE, k -> k.scratch(2, NONE, -99));
+        sentence = "FITS: how many ways (sign NONE), OFFS of a SIGN as bits. NONE: no such ones, no LAND";
+        refusedWithoutLand("fits(-1)", NONE, k -> k.fits(NONE));
+        for (int s : NO_SIGNS) if (s != NONE) refusedWithLand("fits(" + s + ")", NONE, k -> k.fits(s));
+        sentence = "LIES, as bits. NONE: no LAND";
+        refusedWithoutLand("lies()", NONE, k -> k.lies());
     }
 
     private static void fourthPart() {
+        sentence = "SETS: how many (i NONE), the i-th. NONE: no such one, no LAND";
         refusedWithoutLand("sets(-1)", NONE, k -> k.sets(NONE));
-        refusedWithoutLand("moment(0)", HIDDEN, k -> k.moment(0));
-        refusedWithoutLand("better(0, 0, 0)", HIDDEN, k -> k.better(0, 0, 0));
-        refusedWithoutLand("exact(0)", NONE, k -> k.exact(0));
-        refusedWithoutLand("lossy(0)", NONE, k -> k.lossy(0));
-        refusedWithoutLand("route(0, 0)", NONE, k -> k.route(0, 0));
-        refusedWithoutLand("deaf()", NONE, k -> k.deaf());
-        refusedWithoutLand("helper(0)", NONE, k -> k.helper(0));
         for (int i : new int[] {LOW, -2, 7, HIGH}) refusedWithLand("sets(" + i + ")", NONE, k -> k.sets(i));
         refusedWithLand("sets(one more)", NONE, k -> k.sets(k.sets(NONE)));
-        for (int what : NOT_THREE) {
-            refusedWithLand("moment(" + what + ")", HIDDEN, k -> k.moment(what));
-            refusedWithLand("exact(" + what + ")", NONE, k -> k.exact(what));
-        }
+        sentence = "MOMENT: the earliest (0), the latest (1), the sum (2). HIDDEN: it never OPENS, no LAND, no such what";
+        refusedWithoutLand("moment(0)", HIDDEN, k -> k.moment(0));
+        for (int what : NOT_THREE) refusedWithLand("moment(" + what + ")", HIDDEN, k -> k.moment(what));
+        sentence = "BETTER. HIDDEN: no such ones";
+        refusedWithoutLand("better(0, 0, 0)", HIDDEN, k -> k.better(0, 0, 0));
         for (int g : NO_GUARDS) refusedWithLand("better(" + g + ", 0, 1)", HIDDEN, k -> k.better(g, 0, 1));
         for (int p : new int[] {LOW, -2, -1, 8, HIGH}) {
             refusedWithLand("better(0, " + p + ", 1)", HIDDEN, k -> k.better(0, p, 1));
@@ -421,47 +455,57 @@ public final class FarKeysRefused {
         }
         refused(SCENE, "better(0, 5, 0)", HIDDEN, k -> k.better(0, 5, 0));
         refused(SCENE, "better(0, 0, 5)", HIDDEN, k -> k.better(0, 0, 5));
+        sentence = "EXACT: the SIGN (0), above (1), below (2). NONE: no LAND, no such what";
+        refusedWithoutLand("exact(0)", NONE, k -> k.exact(0));
+        for (int what : NOT_THREE) refusedWithLand("exact(" + what + ")", NONE, k -> k.exact(what));
+        sentence = "LOSSY. NONE: no LAND, out of bounds";
+        refusedWithoutLand("lossy(0)", NONE, k -> k.lossy(0));
         for (int risk : new int[] {LOW, -1, 101, HIGH}) refusedWithLand("lossy(" + risk + ")", NONE, k -> k.lossy(risk));
+        sentence = "ROUTE: behind how many (0), together (1). NONE: no such ones";
+        refusedWithoutLand("route(0, 0)", NONE, k -> k.route(0, 0));
         for (int s : NO_SIGNS) refusedWithLand("route(" + s + ", 0)", NONE, k -> k.route(s, 0));
-        for (int what : NOT_TWO) {
-            refusedWithLand("route(0, " + what + ")", NONE, k -> k.route(0, what));
-            refusedWithLand("helper(" + what + ")", NONE, k -> k.helper(what));
-        }
+        for (int what : NOT_TWO) refusedWithLand("route(0, " + what + ")", NONE, k -> k.route(0, what));
+        sentence = "DEAF, as bits. NONE: no LAND";
+        refusedWithoutLand("deaf()", NONE, k -> k.deaf());
+        sentence = "HELPERS: which (0), in how many ways (1). NONE: all hear all, no LAND, no such what";
+        refusedWithoutLand("helper(0)", NONE, k -> k.helper(0));
+        for (int what : NOT_TWO) refusedWithLand("helper(" + what + ")", NONE, k -> k.helper(what));
     }
 
     // ---- promises 38 to 44
 
     private static void nights() {
+        sentence = "A NIGHT: whether it OPENED (1, 0). NONE: no LAND, there are 40";
         refusedWithoutLand("night()", NONE, k -> k.night());
-        refusedWithoutLand("turned(0, 0)", HIDDEN, k -> k.turned(0, 0));
-        refusedWithoutLand("opened(0)", NONE, k -> k.opened(0));
-        refusedWithoutLand("undo()", NONE, k -> k.undo());
-        refusedWithoutLand("image()", NONE, k -> k.image());
-        refusedWithoutLand("back()", NONE, k -> k.back());
         refused(FULL, "night()", NONE, k -> k.night());
         refused(FULL, "night() twice", 2 * NONE, k -> k.night() + k.night());
-        for (int n : new int[] {LOW, -1, 40, 41, HIGH}) {
-            refusedAlways("opened(" + n + ")", NONE, k -> k.opened(n));
-            refusedAlways("turned(" + n + ", 0)", HIDDEN, k -> k.turned(n, 0));
-        }
-        refusedAlways("opened(one more)", NONE, k -> k.opened(k.count(7)));
+        sentence = "Of a NIGHT: when a GUARD turned (HIDDEN: never; no such ones)";
+        refusedWithoutLand("turned(0, 0)", HIDDEN, k -> k.turned(0, 0));
+        for (int n : new int[] {LOW, -1, 40, 41, HIGH}) refusedAlways("turned(" + n + ", 0)", HIDDEN, k -> k.turned(n, 0));
         refusedAlways("turned(one more, 0)", HIDDEN, k -> k.turned(k.count(7), 0));
         for (int g : NO_GUARDS) refusedWithLand("turned(0, " + g + ")", HIDDEN, k -> k.turned(0, g));
-        for (int what : new int[] {LOW, -1, 9, HIGH}) refusedAlways("count(" + what + ")", HIDDEN, k -> k.count(what));
-        noImageToGoBackTo();
+        sentence = "Whether a NIGHT OPENED (1, 0). NONE: no such one";
+        refusedWithoutLand("opened(0)", NONE, k -> k.opened(0));
+        for (int n : new int[] {LOW, -1, 40, 41, HIGH}) refusedAlways("opened(" + n + ")", NONE, k -> k.opened(n));
+        refusedAlways("opened(one more)", NONE, k -> k.opened(k.count(7)));
+        sentence = "The latest NIGHT is UNDONE: how many there are. NONE: none";
+        refusedWithoutLand("undo()", NONE, k -> k.undo());
         noNightToUndo();
+        sentence = "An IMAGE (instead of the one ahead): how many NIGHTS. NONE: no LAND";
+        refusedWithoutLand("image()", NONE, k -> k.image());
+        sentence = "BACK: how many NIGHTS. NONE: no IMAGE of this LAND";
+        refusedWithoutLand("back()", NONE, k -> k.back());
+        noImageToGoBackTo();
+        sentence = "0 GUARDS, 1 SIGNS, 2 PLANS, 3 bytes of the TAPE, 4 NEED, 5 BREATH (0 each without a LAND), 6 SCRATCHES, 7 NIGHTS, "
+                + "8 in how many of these it OPENED. HIDDEN for others";
+        for (int what : new int[] {LOW, -1, 9, HIGH}) refusedAlways("count(" + what + ")", HIDDEN, k -> k.count(what));
     }
 
     /** Behind an IMAGE of another LAND: back is refused, and PLANS, SCRATCHES, NIGHTS and draws stay. */
     private static void noImageToGoBackTo() {
         FarKeys k = nextLand();
-        FarKeys twin = nextLand();
         due("back() in another LAND", k.back(), NONE);
-        checks++;
-        if (!portrait(k, 2).equals(portrait(twin, 2))) {
-            wrong++;
-            System.out.println("back() in another LAND has changed what is seen");
-        }
+        alike(k, nextLand(), 2, "back() in another LAND");
     }
 
     private static FarKeys nextLand() {
@@ -480,16 +524,13 @@ public final class FarKeysRefused {
         for (int i = 0; i < 6; i++) twin.undo();
         due("undo() of none", k.undo(), NONE);
         due("undo() of none again", k.undo(), NONE);
-        checks++;
-        if (!portrait(k, 0).equals(portrait(twin, 0))) {
-            wrong++;
-            System.out.println("undo() of none has changed what is seen");
-        }
+        alike(k, twin, 0, "undo() of none");
     }
 
     // ---- what is answered and only asked
 
     private static void questionsChangeNothing() {
+        sentence = "What is refused answers as told and changes nothing";
         for (int state = SCENE; state <= FULL; state++) {
             for (int ending = 0; ending < ENDINGS; ending++) {
                 FarKeys k = stateOf(state);

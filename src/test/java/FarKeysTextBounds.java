@@ -73,6 +73,7 @@ public final class FarKeysTextBounds {
         signsFromOneToFive();
         hearingsFromNoneToTwelve();
         oneTreasuryAtMost();
+        oneTooMany();
         clausesInAnyOrder();
         clausesBeginWithFourLetters();
         itemsOfEachClause();
@@ -85,6 +86,7 @@ public final class FarKeysTextBounds {
         twoHearingsOfOne();
         landsThatEndTooEarly();
         onlyTheFirstFault();
+        textsBehindOthers();
         blanksInLands();
         plansByBytes();
         numbersInPlans();
@@ -244,6 +246,29 @@ public final class FarKeysTextBounds {
         due("BREATH", k.count(5), 4);
     }
 
+    private static void oneTooMany() {
+        sentence = "a fifth g, a sixth s, a thirteenth h, a second b, a seventh ( at it";
+        // whatever stands behind it, and whatever else is not yet told
+        String[] rest = {"", " ", ";", ";x", "p100", "t1t1", "!"};
+        for (String more : rest) {
+            fault(0, "g;g;g;g;g" + more, 8);
+            fault(0, "gp1;gp2;gp3;gp4; g" + more, 17);
+            fault(0, "s;s;s;s;s;s" + more, 10);
+            fault(0, "g;g;s;s;s;s;s;so9" + more, 14);
+            fault(0, "h" + times(";h", 12) + more, 24);
+            fault(0, "b;b" + more, 2);
+            fault(0, "bn9;b" + more, 2);
+            fault(1, "(((((((" + more, 6);
+            fault(1, "((((((a)&b)|c&(((" + more, 16);
+        }
+        // the last that may be, with what is wrong behind it
+        fault(0, "g;g;g;g!", 7);
+        fault(0, "s;s;s;s;s!", 9);
+        fault(0, "h" + times(";h", 11) + "!", 23);
+        fault(0, "b!", 1);
+        fault(1, "((((((!", 6);
+    }
+
     private static void clausesInAnyOrder() {
         sentence = "in any order";
         String[] clause = {"gp1t2", "gp3t4", "st5e1", "hg1d6", "bn3w7"};
@@ -290,8 +315,8 @@ public final class FarKeysTextBounds {
     }
 
     private static void lettersOnceAtMost() {
-        sentence = "a letter, each once at most in a CLAUSE";
         for (int kind = 0; kind < 4; kind++) {
+            sentence = "a letter, each once at most in a CLAUSE";
             for (int one = 0; one < LETTERS[kind].length(); one++) {
                 for (int other = 0; other < LETTERS[kind].length(); other++) {
                     String text = CLAUSE[kind] + item(kind, one) + (one == other ? "" : item(kind, other));
@@ -300,10 +325,14 @@ public final class FarKeysTextBounds {
                     fault(0, text + LETTERS[kind].charAt(other), text.length());
                 }
             }
+            sentence = "a letter that was there";
             StringBuilder all = new StringBuilder(CLAUSE[kind]);
             for (int i = LETTERS[kind].length() - 1; i >= 0; i--) all.append(item(kind, i));
             fault(0, all.toString(), NONE);
-            fault(0, all + item(kind, 0), all.length());
+            for (int i = 0; i < LETTERS[kind].length(); i++) {
+                fault(0, all + item(kind, i), all.length());
+                fault(0, all + " " + LETTERS[kind].charAt(i) + "99999", all.length() + 1);
+            }
         }
         // of another CLAUSE it is there anew
         fault(0, "gp1;gp1;st1;st1;hd1;hg1d1", NONE);
@@ -314,9 +343,9 @@ public final class FarKeysTextBounds {
     }
 
     private static void numbersOfOneOrTwoDigits() {
-        sentence = "and a number (one or two digits)";
         for (int kind = 0; kind < 4; kind++) {
             for (int i = 0; i < LETTERS[kind].length(); i++) {
+                sentence = "and a number (one or two digits)";
                 String ahead = CLAUSE[kind] + LETTERS[kind].charAt(i);
                 int at = ahead.length();
                 fault(0, ahead, at);
@@ -329,7 +358,7 @@ public final class FarKeysTextBounds {
                 fault(0, ahead + "0" + LEAST[kind][i], NONE);
                 fault(0, ahead + LEAST[kind][i] + "/", at + 1);
                 fault(0, ahead + LEAST[kind][i] + ":", at + 1);
-                // a third digit itself, whatever stands ahead of it
+                sentence = "a third digit (whatever stands ahead of it) itself";
                 for (int n = 0; n < 100; n++) {
                     String two = "" + n / 10 + n % 10;
                     fault(0, ahead + two + "0", at + 2);
@@ -494,6 +523,29 @@ public final class FarKeysTextBounds {
         fault(0, "g;g;s;bn0", 8);
         fault(0, "g;g;s;bn0 2", 8);
         fault(0, "g;g;s;bn02", NONE);
+    }
+
+    /** Each text behind each other one on one object: nothing of the one is left in the other. */
+    private static void textsBehindOthers() {
+        sentence = "The FAULT of the TAPE as a LAND (0), a PLAN (1)";
+        String[] text = {"g;g;s", "g;g;s;h;h", "g;g;g;g;g", "g;g;s;hs1", "g;g;s;b;b", "gp1p1", "g;g;s;s;s;s;s;s", "g;g;s;s;so1v2", "bn4w9;g;g;s;h",
+            "st60", "g;g;g;g;st9e3;so0v3;hs1g3d9", "", "a", "(a", "((((((a))))))", "(((((((a", "a&", "a+100", "a)", "(a|b)&c+99"};
+        int[] asLand = {NONE, 9, 8, 9, 8, 3, 14, 13, NONE, 3, NONE, 0, 0, 0, 0, 0, 0, 0, 0, 0};
+        int[] asPlan = {0, 0, 0, 0, 0, 0, 0, 0, 1, 0, 0, 0, NONE, 2, NONE, 6, 2, 4, 1, NONE};
+        for (int one = 0; one < text.length; one++) {
+            for (int other = 0; other < text.length; other++) {
+                FarKeys k = new FarKeys();
+                for (int i : new int[] {one, other, one}) {
+                    k.end(0);
+                    feedText(k, text[i]);
+                    due("fault(0) of '" + text[i] + "' behind another", k.fault(0), asLand[i]);
+                    due("fault(1) of '" + text[i] + "' behind another", k.fault(1), asPlan[i]);
+                    due("fault(0) of '" + text[i] + "' once more", k.fault(0), asLand[i]);
+                    due("text(0) of '" + text[i] + "' is taken", k.text(0) != NONE, asLand[i] == NONE);
+                    due("text(1) of '" + text[i] + "' is taken", k.text(1) != NONE, asPlan[i] == NONE);
+                }
+            }
+        }
     }
 
     private static void blanksInLands() {
