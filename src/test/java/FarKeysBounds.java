@@ -571,6 +571,16 @@ public final class FarKeysBounds {
             due("best(0, 1) of e+" + late, k.best(0, 1), late <= 9 ? 1 : 0);
             due("thief(0, 0) of e+" + late, k.thief(0, 0), late <= 9 ? 40 + late : 0);
         }
+        // three are needed: GUARDS 1 and 2 so far apart, GUARD 0 may be between them, but only within a BREATH of 4
+        for (int apart = 0; apart <= 9; apart++) {
+            FarKeys k = land("g;g;g;s;h;hg1;hg2;bn3w4", "a+2", "a", "a+" + apart);
+            due("best(0, 1) of " + apart + " apart", k.best(0, 1), apart <= 4 ? 1 : 0);
+            due("best(0, 0) of " + apart + " apart", k.best(0, 0), 0);
+            due("thief(0, 1) of " + apart + " apart", k.thief(0, 1), apart <= 4 ? 1 : 0);
+            due("waits(0, 1) of " + apart + " apart", k.waits(0, 1), apart <= 4 ? 1 : 0);
+        }
+        // GUARD 2 at 0: the two others within 4 of it
+        due("sure(0, 1) with a third", land("g;g;g;s;h;hg1;hg2;bn3w4", "", "", "a").sure(0, 1), 25);
         sentence = "BEST: the plan (0), in how many ways (1). NONE: no such ones";
         FarKeys k = land("g;g;g;s;h;hg1", "a", "a");
         for (int g : FEW)
@@ -805,6 +815,15 @@ public final class FarKeysBounds {
         due("rest(0, 1, -1) within 1 of t11", land("gt11;gt11;st5e1;h;hg1;bw1").rest(0, 1, NONE), 4);
         due("rest(0, 1, 3) within 1 of t11", land("gt11;gt11;st5e1;h;hg1;bw1").rest(0, 1, 3), 101);
         due("rest(1, 0, 3) within 1 of t11", land("gt11;gt11;st5e1;h;hg1;bw1").rest(1, 0, 3), 101);
+        // a third is always the first: TRYING is for neither, however much it is
+        for (String text : new String[] {"gt99;gt99;g;st20;s;h;hg1;hs1g2;bw0", "gt99;gt99;g;st20e1;s;h;hg1;hs1g2;bw0"}) {
+            FarKeys third = land(text, "", "", "b");
+            for (int order = 0; order < 2; order++) {
+                due("rest of those behind a third", third.rest(order, 1 - order, NONE), 110);
+                due("rest of those behind a third", third.rest(order, 1 - order, 9), 909);
+                due("rest of those behind a third", third.rest(order, 1 - order, 10), 1010);
+            }
+        }
         // who never turns is not the first: by b, which GUARD 0 does not hear, it has nothing
         FarKeys deaf = land("gt5;gt5;s;s;h;bn3");
         due("rest(0, 1, -1) of one who hears a", deaf.rest(0, 1, NONE), 200);
@@ -927,6 +946,19 @@ public final class FarKeysBounds {
                 due("fits(1) turned at " + off, turned.fits(1), fine ? 1 << off + 3 : 0);
             }
         }
+        // several SIGNS heard, none of them turned by: all of them count
+        for (int x = -2; x <= 2; x++)
+            for (int y = -2; y <= 2; y++) {
+                FarKeys two = land("g;g;st5e1;st8e1;se2;h;hs1g1");
+                two.scratch(0, 0, 5 + x);
+                two.scratch(1, 1, 8 + y);
+                boolean fine = Math.abs(x) <= 1 && Math.abs(y) <= 1;
+                due("fits(-1) of two heard", two.fits(NONE), fine ? 5 : 0);
+                due("fits(0) of two heard", two.fits(0), fine ? 1 << x + 3 : 0);
+                due("fits(1) of two heard", two.fits(1), fine ? 1 << y + 3 : 0);
+                due("fits(2) of two heard", two.fits(2), fine ? 62 : 0);
+                due("lies() of two heard", two.lies(), (Math.abs(x) > 1 ? 1 : 0) + (Math.abs(y) > 1 ? 2 : 0));
+            }
         // a GUARD who never turns, a SIGN that is not heard, one that is never there
         FarKeys k = land("g;g;s;so0v1;hs1", "b");
         k.scratch(0, NONE, 0);

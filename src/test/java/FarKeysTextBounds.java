@@ -479,6 +479,9 @@ public final class FarKeysTextBounds {
         fault(0, "hd1;hd2;g;g;s;s", 15);
         fault(0, "g;g;s;s;hs1g1;h;hs1;hg1;hd9g1s1", 31);
         fault(0, "g;g;s;s;hs1g1;h;hs1;hg1", NONE);
+        // those that are heard once do not mend it
+        fault(0, "h;h;hg1;g;g;s;s", 15);
+        fault(0, "g;g;s;s;hs1;hg1;hs1;h;hs1g1", 27);
         for (int one = 0; one < 20; one++) {
             for (int other = 0; other < 20; other++) {
                 String text = "g;g;g;g;s;s;s;s;s;hs" + one % 5 + "g" + one / 5 + ";hs" + other % 5 + "g" + other / 5;
